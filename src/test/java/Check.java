@@ -1,9 +1,8 @@
+import java.util.function.Consumer;
+import java.util.function.Supplier;
+
 /** Counts the answers of one test that are not the ones that are due. */
 final class Check {
-    interface Call {
-        void run();
-    }
-
     private final String name;
     private int asked = 0;
     private int wrong = 0;
@@ -29,7 +28,7 @@ final class Check {
     }
 
     /** The call throws an exception of just this class. */
-    void refused(String what, Class<? extends RuntimeException> want, Call call) {
+    void refused(String what, Class<? extends RuntimeException> want, Runnable call) {
         String got = "nothing";
         try {
             call.run();
@@ -39,11 +38,26 @@ final class Check {
         equal(what + " throws", want.getSimpleName(), got);
     }
 
-    /** The call is refused, and nothing that can be asked of the object is another one then. */
-    void refused(SharedUplink x, String what, Class<? extends RuntimeException> want, Call call) {
-        String before = Snapshot.of(x);
-        refused(what, want, call);
-        equal("all that can be asked after " + what, before, Snapshot.of(x));
+    /**
+     * The call is refused, and changes nothing: neither what can be asked of the object then, nor
+     * what it answers later, beside one that was made in the same way and not called so.
+     */
+    void refused(String what, Class<? extends RuntimeException> want,
+            Supplier<SharedUplink> scene, Consumer<SharedUplink> call) {
+        SharedUplink x = scene.get();
+        SharedUplink twin = scene.get();
+        refused(what, want, () -> call.accept(x));
+        equal("all that can be asked after " + what, Snapshot.of(twin), Snapshot.of(x));
+        for (int i = 0; i < 8 && x.played() < 500; i++) {
+            equal("play() after " + what, twin.play(), x.play());
+            equal("all that can be asked later than " + what, Snapshot.of(twin), Snapshot.of(x));
+        }
+    }
+
+    /** An IllegalArgumentException on a new object and on a busy one. */
+    void refusedAsArgument(String what, Consumer<SharedUplink> call) {
+        refused(what, IllegalArgumentException.class, SharedUplink::new, call);
+        refused(what, IllegalArgumentException.class, Scene::busy, call);
     }
 
     void end() {
