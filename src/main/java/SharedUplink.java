@@ -123,7 +123,7 @@ public final class SharedUplink {
         if (!isSlot(slot, carrier)) {
             throw new IllegalArgumentException("there is no such slot");
         }
-        lost[indexOf(slot, carrier)] = true;
+        lost[positionOf(slot, carrier)] = true;
     }
 
     public int play() throws IllegalStateException {
@@ -201,7 +201,7 @@ public final class SharedUplink {
         if (!isAhead(ahead)) {
             throw new IllegalArgumentException("there is no such plan");
         }
-        return planOf(playedCount + ahead)[indexOf(slot, carrier)];
+        return planOf(playedCount + ahead)[positionOf(slot, carrier)];
     }
 
     public int places(int t, int ahead) throws IllegalArgumentException {
@@ -225,7 +225,7 @@ public final class SharedUplink {
         if (!isSlot(slot, carrier)) {
             throw new IllegalArgumentException("there is no such slot");
         }
-        return heardOf[indexOf(slot, carrier)];
+        return heardOf[positionOf(slot, carrier)];
     }
 
     public int missed() {
@@ -249,7 +249,7 @@ public final class SharedUplink {
     }
 
     /** Slots count before carriers, so that going up by index is the document's order. */
-    private static int indexOf(int slot, int carrier) {
+    private static int positionOf(int slot, int carrier) {
         return slot * CARRIERS + carrier;
     }
 
@@ -311,7 +311,7 @@ public final class SharedUplink {
         int count = 0;
         for (int slot = 0; slot < SLOTS; slot++) {
             for (int carrier = 0; carrier < CARRIERS; carrier++) {
-                int at = indexOf(slot, carrier);
+                int at = positionOf(slot, carrier);
                 heardOf[at] = isHeard(slot, carrier) ? bursts[at].sender : NONE;
                 lost[at] = false;
                 if (heardOf[at] != NONE) {
@@ -323,7 +323,7 @@ public final class SharedUplink {
     }
 
     private boolean isHeard(int slot, int carrier) {
-        int at = indexOf(slot, carrier);
+        int at = positionOf(slot, carrier);
         if (bursts[at].sender == NONE || lost[at]) {
             return false;
         }
@@ -337,10 +337,10 @@ public final class SharedUplink {
 
     /** Where no burst is, and in the door, nothing disturbs: that counts as an offset of 0. */
     private int offsetIn(int slot, int carrier) {
-        if (!isSlot(slot, carrier) || indexOf(slot, carrier) == DOOR) {
+        if (!isSlot(slot, carrier) || positionOf(slot, carrier) == DOOR) {
             return 0;
         }
-        int sender = bursts[indexOf(slot, carrier)].sender;
+        int sender = bursts[positionOf(slot, carrier)].sender;
         return isTerminal(sender) ? terminals[sender].offset : 0;
     }
 
@@ -662,23 +662,22 @@ public final class SharedUplink {
         }
 
         private void passBelow(int base) {
-            while (expected < base && expected <= MOST_DATAGRAMS) {
-                passExpected();
+            for (; expected < base && expected <= MOST_DATAGRAMS; expected++) {
+                if (isComplete(expected)) {
+                    countArrived(expected);
+                }
             }
         }
 
         private void passComplete() {
-            while (expected <= MOST_DATAGRAMS && isComplete(expected)) {
-                passExpected();
+            for (; expected <= MOST_DATAGRAMS && isComplete(expected); expected++) {
+                countArrived(expected);
             }
         }
 
-        private void passExpected() {
-            if (isComplete(expected)) {
-                arrived++;
-                latestArrived = expected;
-            }
-            expected++;
+        private void countArrived(int datagram) {
+            arrived++;
+            latestArrived = datagram;
         }
 
         private void noteCell(Burst burst) {
@@ -770,7 +769,7 @@ public final class SharedUplink {
             Arrays.fill(row, NONE);
             for (int slot = 0; slot < SLOTS; slot++) {
                 for (int carrier = 0; carrier < CARRIERS; carrier++) {
-                    if (indexOf(slot, carrier) != DOOR) {
+                    if (positionOf(slot, carrier) != DOOR) {
                         givePlace(row, slot, carrier);
                     }
                 }
@@ -786,7 +785,7 @@ public final class SharedUplink {
                 }
             }
             if (best != NONE) {
-                row[indexOf(slot, carrier)] = best;
+                row[positionOf(slot, carrier)] = best;
                 due[best]--;
             }
         }
@@ -796,8 +795,8 @@ public final class SharedUplink {
                 if (other == carrier) {
                     continue;
                 }
-                if (row[indexOf(slot, other)] == t
-                        || slot > 0 && row[indexOf(slot - 1, other)] == t) {
+                if (row[positionOf(slot, other)] == t
+                        || slot > 0 && row[positionOf(slot - 1, other)] == t) {
                     return false;
                 }
             }

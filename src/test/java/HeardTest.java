@@ -126,12 +126,7 @@ public final class HeardTest {
     }
 
     private static void wrongArgumentsAreRefused() {
-        int[][] wrong = {
-            {-1, 0}, {10, 0}, {0, -1}, {0, 3}, {1, 3}, {3, -1}, {-1, 3}, {10, -1},
-            {Integer.MIN_VALUE, 0}, {Integer.MAX_VALUE, 0},
-            {0, Integer.MIN_VALUE}, {0, Integer.MAX_VALUE},
-        };
-        for (int[] w : wrong) {
+        for (int[] w : Scene.wrongSlots()) {
             CHECK.refusedAsArgument("heard(" + w[0] + ", " + w[1] + ")",
                     x -> x.heard(w[0], w[1]));
         }

@@ -86,12 +86,7 @@ public final class LoseTest {
     }
 
     private static void wrongArgumentsAreRefused() {
-        int[][] wrong = {
-            {-1, 0}, {10, 0}, {0, -1}, {0, 3}, {1, 3}, {3, -1}, {-1, 3}, {10, -1},
-            {Integer.MIN_VALUE, 0}, {Integer.MAX_VALUE, 0},
-            {0, Integer.MIN_VALUE}, {0, Integer.MAX_VALUE},
-        };
-        for (int[] w : wrong) {
+        for (int[] w : Scene.wrongSlots()) {
             CHECK.refusedAsArgument("lose(" + w[0] + ", " + w[1] + ")", x -> x.lose(w[0], w[1]));
         }
     }

@@ -6,14 +6,16 @@ public final class ModelTest {
     private static final int RUNS = 400;
     private static final int CALLS = 512;
 
-    /** How a run is weighted: drift, lost slots, switching and datagrams, each 0 .. 3. */
     private final Random random;
+    // how a run is weighted, each 0 .. 3
     private final int drifts;
     private final int losses;
     private final int switches;
     private final int datagrams;
     private final SharedUplink program = new SharedUplink();
     private final Model model = new Model();
+    private String name = "";
+    private int calls = 0;
 
     private ModelTest(int seed) {
         random = new Random(seed);
@@ -31,33 +33,74 @@ public final class ModelTest {
     }
 
     private void run(int seed) {
-        for (int i = 0; i < CALLS; i++) {
-            String name = "run " + seed + ", call " + i + ": ";
-            int kind = random.nextInt(100);
-            if (kind < 40 || i < 12 && kind < 60) {
-                both(name, "play", 0, 0, 0);
-            } else if (kind < 42 + 3 * drifts) {
-                both(name, "drift", terminal(), number(-4, 4), 0);
-            } else if (kind < 54 + 4 * losses) {
-                both(name, "lose", number(0, 9), number(0, 2), 0);
-            } else if (kind < 70 + 2 * switches) {
-                boolean on = i < 40 || random.nextInt(10) < 10 - 2 * switches;
-                both(name, "power", terminal(), on ? 1 : 0, 0);
-            } else if (kind < 78 + 4 * datagrams) {
-                both(name, "send", terminal(), number(1, 6), 0);
-            } else if (kind < 93) {
-                both(name, "rates", terminal(), number(0, 5), number(1, 4));
-            } else {
-                ask(name);
-            }
-            compareState(name);
+        name = "run " + seed;
+        if (seed % 50 == 49) {
+            playToTheEnd();
+        } else if (seed % 5 == 4) {
+            flood();
+        } else {
+            mix();
         }
     }
 
-    private void ask(String name) {
+    private void mix() {
+        for (int i = 0; i < CALLS; i++) {
+            int kind = random.nextInt(100);
+            if (kind < 40 || i < 12 && kind < 60) {
+                both("play", 0, 0, 0);
+            } else if (kind < 42 + 3 * drifts) {
+                both("drift", terminal(), number(-4, 4), 0);
+            } else if (kind < 54 + 4 * losses) {
+                both("lose", number(0, 9), number(0, 2), 0);
+            } else if (kind < 70 + 2 * switches) {
+                boolean on = i < 40 || random.nextInt(10) < 10 - 2 * switches;
+                both("power", terminal(), on ? 1 : 0, 0);
+            } else if (kind < 78 + 4 * datagrams) {
+                both("send", terminal(), number(1, 6), 0);
+            } else if (kind < 93) {
+                both("rates", terminal(), number(0, 5), number(1, 4));
+            } else {
+                ask();
+            }
+        }
+    }
+
+    /** Many cells at many terminals, so that needs, weights and guarantees contend. */
+    private void flood() {
+        for (int t = 0; t < 5; t++) {
+            both("power", t, 1, 0);
+            both("play", 0, 0, 0);
+        }
+        for (int round = 0; round < 14; round++) {
+            for (int t = 0; t < 5; t++) {
+                both("rates", t, random.nextInt(1 + datagrams), number(1, 4));
+                for (int i = random.nextInt(7); i > 0; i--) {
+                    both("send", t, number(3, 6), 0);
+                }
+            }
+            for (int i = number(1, 4); i > 0; i--) {
+                both("play", 0, 0, 0);
+            }
+            for (int i = random.nextInt(1 + losses); i > 0; i--) {
+                both("lose", number(0, 9), number(0, 2), 0);
+            }
+        }
+    }
+
+    private void playToTheEnd() {
+        for (int t = 0; t < 5; t++) {
+            both("power", t, 1, 0);
+            both("drift", t, number(-1, 1), 0);
+        }
+        for (int i = 0; i < 502; i++) {
+            both("play", 0, 0, 0);
+        }
+    }
+
+    private void ask() {
         String[] questions = {"terminal", "centre", "plan", "places", "heard", "played", "missed"};
         String question = questions[random.nextInt(questions.length)];
-        both(name, question, number(0, 9), number(0, 6), number(0, 1));
+        both(question, number(0, 9), number(0, 6), number(0, 1));
     }
 
     private int terminal() {
@@ -72,10 +115,13 @@ public final class ModelTest {
         return least + random.nextInt(most - least + 1);
     }
 
-    private void both(String name, String call, int a, int b, int c) {
+    private void both(String call, int a, int b, int c) {
         String want = answer(call, a, b, c, true);
         String got = answer(call, a, b, c, false);
-        CHECK.equal(name + call + "(" + a + ", " + b + ", " + c + ")", want, got);
+        calls++;
+        String place = name + ", call " + calls + ": ";
+        CHECK.equal(place + call + "(" + a + ", " + b + ", " + c + ")", want, got);
+        compareState(place);
     }
 
     private String answer(String call, int a, int b, int c, boolean ofModel) {
@@ -122,24 +168,24 @@ public final class ModelTest {
         }
     }
 
-    private void compareState(String name) {
-        CHECK.equal(name + "missed", model.missed(), program.missed());
+    private void compareState(String place) {
+        CHECK.equal(place + "missed", model.missed(), program.missed());
         for (int t = 0; t < 5; t++) {
             for (int what = 0; what <= 6; what++) {
-                CHECK.equal(name + "terminal", model.terminal(t, what), program.terminal(t, what));
+                CHECK.equal(place + "terminal", model.terminal(t, what), program.terminal(t, what));
             }
             for (int what = 0; what <= 4; what++) {
-                CHECK.equal(name + "centre", model.centre(t, what), program.centre(t, what));
+                CHECK.equal(place + "centre", model.centre(t, what), program.centre(t, what));
             }
         }
         for (int slot = 0; slot < 10; slot++) {
             for (int carrier = 0; carrier < 3; carrier++) {
                 int next = program.plan(slot, carrier, 0);
                 int behind = program.plan(slot, carrier, 1);
-                CHECK.equal(name + "plan", model.plan(slot, carrier, 0), next);
-                CHECK.equal(name + "plan", model.plan(slot, carrier, 1), behind);
+                CHECK.equal(place + "plan", model.plan(slot, carrier, 0), next);
+                CHECK.equal(place + "plan", model.plan(slot, carrier, 1), behind);
                 int heard = program.heard(slot, carrier);
-                CHECK.equal(name + "heard", model.heard(slot, carrier), heard);
+                CHECK.equal(place + "heard", model.heard(slot, carrier), heard);
             }
         }
     }

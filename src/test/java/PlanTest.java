@@ -58,7 +58,7 @@ public final class PlanTest {
                 ".40 142 340 142 340 142 340 120 34. 12.", Snapshot.plan(x, 1));
     }
 
-    /** Terminal 4 has 5 places and 2 cells more: due are 1, 1, 1, 1 and 2, then four rounds and 3. */
+    /** Terminal 4 needs 2: due are 1, 1, 1, 1 and 2, and behind the rounds 6, 6, 6, 5 and 6. */
     private static void aSmallNeedGetsNoMoreByIt() {
         SharedUplink x = Scene.steady(0, 1, 2, 3, 4);
         x.send(4, 6);

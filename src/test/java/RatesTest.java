@@ -24,12 +24,16 @@ public final class RatesTest {
                 ".40 142 340 142 340 142 340 120 34. 12.", Snapshot.plan(x, 1));
     }
 
-    /** All need much: due are 3, 6, 8, 9 and 3, which whole quotients would not come to. */
+    /**
+     * All need much, and the terminals 0 and 4 have the weight that they had at first: due are
+     * 3, 6, 8, 9 and 3, which whole quotients would not come to.
+     */
     private static void weightsShareOutWhatIsLeft() {
         SharedUplink x = Scene.steady(0, 1, 2, 3, 4);
-        int[] weights = {1, 2, 3, 4, 1};
+        x.rates(1, 0, 2);
+        x.rates(2, 0, 3);
+        x.rates(3, 0, 4);
         for (int t = 0; t < 5; t++) {
-            x.rates(t, 0, weights[t]);
             sendFour(x, t);
         }
         x.play();
@@ -37,7 +41,7 @@ public final class RatesTest {
                 ".32 132 132 132 032 132 430 120 34. 12.", Snapshot.plan(x, 1));
     }
 
-    /** Nobody but terminal 4 needs anything; all guarantees stand, and it gets the 4 that are left. */
+    /** Terminal 4 alone needs anything: it gets the 4 that the guarantees leave. */
     private static void guaranteesComeBeforeNeeds() {
         SharedUplink x = Scene.steady(0, 1, 2, 3, 4);
         for (int t = 0; t < 5; t++) {

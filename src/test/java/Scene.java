@@ -52,4 +52,13 @@ final class Scene {
         x.send(3, 2);
         return x;
     }
+
+    /** Slots and carriers, one or both of which there are not. */
+    static int[][] wrongSlots() {
+        return new int[][] {
+            {-1, 0}, {10, 0}, {0, -1}, {0, 3}, {1, 3}, {3, -1}, {-1, 3}, {10, -1},
+            {Integer.MIN_VALUE, 0}, {Integer.MAX_VALUE, 0},
+            {0, Integer.MIN_VALUE}, {0, Integer.MAX_VALUE},
+        };
+    }
 }

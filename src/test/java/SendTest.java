@@ -7,6 +7,7 @@ public final class SendTest {
         twentyFourCellsAtMost();
         cellsUnderWayCountAndGoneOnesDoNot();
         sixtyDatagramsAtMost();
+        aNewDatagramIsFreshInEveryWay();
         wrongArgumentsAreRefused();
         fullOnesAreRefused();
         CHECK.end();
@@ -75,6 +76,24 @@ public final class SendTest {
         CHECK.equal("latest", 60, x.centre(0, 4));
         CHECK.refused("send behind 60", IllegalStateException.class, () -> x.send(0, 1));
         CHECK.equal("send of another", 1, x.send(1, 1));
+    }
+
+    /** Made where others failed: it is sent four times itself before it fails. */
+    private static void aNewDatagramIsFreshInEveryWay() {
+        SharedUplink x = Scene.steady(0);
+        for (int number = 1; number <= 3; number++) {
+            CHECK.equal("number", number, x.send(0, 1));
+            CHECK.equal("fresh", 1, x.terminal(0, 3));
+            CHECK.equal("under way", 0, x.terminal(0, 4));
+            for (int i = 0; i < 4; i++) {
+                Scene.playFirstLost(x);
+                x.play();
+                CHECK.equal("under way", 1, x.terminal(0, 4));
+                CHECK.equal("failed", number - 1, x.terminal(0, 6));
+            }
+            x.play();
+            CHECK.equal("failed", number, x.terminal(0, 6));
+        }
     }
 
     private static void wrongArgumentsAreRefused() {
