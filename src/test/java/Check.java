@@ -3,6 +3,8 @@ import java.util.function.Supplier;
 
 /** Counts the answers of one test that are not the ones that are due. */
 final class Check {
+    private static final int[] SUPERFRAMES_LATER = {0, 1, 2, 4, 8};
+
     private final String name;
     private int asked = 0;
     private int wrong = 0;
@@ -27,37 +29,48 @@ final class Check {
         }
     }
 
+    void accepted(String what, Runnable call) {
+        equal(what + " throws", "nothing", thrownBy(call));
+    }
+
     /** The call throws an exception of just this class. */
     void refused(String what, Class<? extends RuntimeException> want, Runnable call) {
-        String got = "nothing";
+        equal(what + " throws", want.getSimpleName(), thrownBy(call));
+    }
+
+    private static String thrownBy(Runnable call) {
         try {
             call.run();
+            return "nothing";
         } catch (RuntimeException e) {
-            got = e.getClass().getSimpleName();
+            return e.getClass().getSimpleName();
         }
-        equal(what + " throws", want.getSimpleName(), got);
     }
 
     /**
      * The call is refused, and changes nothing: neither what can be asked of the object then, nor
-     * what it answers later, beside one that was made in the same way and not called so.
+     * what it answers later, beside one that was made in the same way and not called so. New
+     * objects each time, as nothing is promised of one behind its 512th call.
      */
     void refused(String what, Class<? extends RuntimeException> want,
             Supplier<SharedUplink> scene, Consumer<SharedUplink> call) {
-        SharedUplink x = scene.get();
-        SharedUplink twin = scene.get();
-        refused(what, want, () -> call.accept(x));
-        equal("all that can be asked after " + what, Snapshot.of(twin), Snapshot.of(x));
-        for (int i = 0; i < 8 && x.played() < 500; i++) {
-            equal("play() after " + what, twin.play(), x.play());
-            equal("all that can be asked later than " + what, Snapshot.of(twin), Snapshot.of(x));
+        for (int later : SUPERFRAMES_LATER) {
+            SharedUplink x = scene.get();
+            SharedUplink twin = scene.get();
+            refused(what, want, () -> call.accept(x));
+            for (int i = 0; i < later; i++) {
+                equal("play() after " + what, twin.play(), x.play());
+            }
+            equal("all that can be asked " + later + " superframes after " + what,
+                    Snapshot.of(twin), Snapshot.of(x));
         }
     }
 
-    /** An IllegalArgumentException on a new object and on a busy one. */
+    /** An IllegalArgumentException on a new object, a busy one and one whose slots are short. */
     void refusedAsArgument(String what, Consumer<SharedUplink> call) {
         refused(what, IllegalArgumentException.class, SharedUplink::new, call);
         refused(what, IllegalArgumentException.class, Scene::busy, call);
+        refused(what, IllegalArgumentException.class, Scene::crowded, call);
     }
 
     void end() {

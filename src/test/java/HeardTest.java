@@ -12,7 +12,16 @@ public final class HeardTest {
         offsetsBelowMinusEightDisturbTheSlotBefore();
         theDoorDisturbsNothing();
         nothingDisturbsTheDoor();
-        wrongArgumentsAreRefused();
+        itsOwnOffsetOfEight();
+        itsOwnOffsetOfNine();
+        noSlotBeforeTheFirst();
+        noSlotBehindTheLast();
+        otherCarriersAreNotDisturbed();
+        oneThatIsOffDisturbsNobody();
+        anyOffsetInTheDoor();
+        oneAloneInTheDoor();
+        missedCountsBurstsAlone();
+        thereAreTenSlotsAndThreeCarriers();
         CHECK.end();
     }
 
@@ -21,13 +30,20 @@ public final class HeardTest {
      * twice the drift in 6, which is next, and thrice in 7, as nothing was measured in 5.
      */
     static SharedUplink lateBy(int drift) {
+        return late(0, drift);
+    }
+
+    private static SharedUplink late(int last, int drift) {
         SharedUplink x = new SharedUplink();
         for (int t = 4; t >= 0; t--) {
-            x.power(t, true);
-            x.drift(t, t == 0 ? drift : 0);
-            x.play();
+            if (t != last) {
+                x.power(t, true);
+                x.play();
+            }
         }
-        x.play();
+        x.power(last, true);
+        x.drift(last, drift);
+        Scene.play(x, 2);
         return x;
     }
 
@@ -125,7 +141,141 @@ public final class HeardTest {
         CHECK.equal("missed()", 9, x.missed());
     }
 
-    private static void wrongArgumentsAreRefused() {
+    /** Alone, with a drift from the start: its offset is twice that in superframe 2. */
+    private static SharedUplink alone(int drift) {
+        SharedUplink x = new SharedUplink();
+        x.power(0, true);
+        x.drift(0, drift);
+        Scene.play(x, 2);
+        return x;
+    }
+
+    /** "if the offset is -8 .. 8". */
+    private static void itsOwnOffsetOfEight() {
+        for (int drift = -4; drift <= 4; drift += 8) {
+            SharedUplink x = alone(drift);
+            CHECK.equal("play() with 8", 9, x.play());
+            CHECK.equal("offset", 2 * drift, x.terminal(0, 2));
+            CHECK.equal("missed()", 0, x.missed());
+        }
+    }
+
+    private static void itsOwnOffsetOfNine() {
+        for (int drift = -3; drift <= 3; drift += 6) {
+            SharedUplink x = alone(drift);
+            CHECK.equal("play() with 6", 9, x.play());
+            CHECK.equal("play() with 9", 0, x.play());
+            CHECK.equal("offset", 3 * drift, x.terminal(0, 2));
+            CHECK.equal("heard", NOBODY, Snapshot.heard(x));
+            CHECK.equal("missed()", 9, x.missed());
+        }
+    }
+
+    /** Terminal 0 with -9 has slot 0 of carrier 1: slot 9 of it, terminal 1's, is heard. */
+    private static void noSlotBeforeTheFirst() {
+        SharedUplink x = late(0, -3);
+        x.play();
+        x.play();
+        CHECK.equal("offset", -9, x.terminal(0, 2));
+        CHECK.equal("plan(0, 1, 0)", 0, x.plan(0, 1, 0));
+        CHECK.equal("heard(0, 1)", SharedUplink.NONE, x.heard(0, 1));
+        CHECK.equal("heard(9, 1)", 1, x.heard(9, 1));
+    }
+
+    /** Terminal 1 with 9 has slot 9 of carrier 1: slot 0 of it, terminal 0's, is heard. */
+    private static void noSlotBehindTheLast() {
+        SharedUplink x = late(1, 3);
+        x.play();
+        CHECK.equal("play()", 16, x.play());
+        CHECK.equal("offset", 9, x.terminal(1, 2));
+        CHECK.equal("plan(9, 1, 0)", 1, x.plan(9, 1, 0));
+        CHECK.equal("heard", ".0. 23. 03. 2.4 0.4 2.4 0.4 2.. 0.. 2..", Snapshot.heard(x));
+    }
+
+    /**
+     * "of the same carrier": two alone, each in its own carrier, one of them with 9 or -9; and the
+     * slots two away, and the same slot, are not disturbed either.
+     */
+    private static void otherCarriersAreNotDisturbed() {
+        for (int drift = -3; drift <= 3; drift += 6) {
+            SharedUplink x = Scene.steady(1);
+            x.power(0, true);
+            x.drift(0, drift);
+            Scene.play(x, 3);
+            CHECK.equal("play()", 9, x.play());
+            CHECK.equal("offset", 3 * drift, x.terminal(0, 2));
+            CHECK.equal("heard", "..1 ..1 ..1 ..1 ..1 ..1 ..1 ..1 ..1 ...", Snapshot.heard(x));
+        }
+    }
+
+    /** Its places are in the plan still, but no burst is in them. */
+    private static void oneThatIsOffDisturbsNobody() {
+        SharedUplink x = lateBy(3);
+        x.play();
+        x.power(0, false);
+        CHECK.equal("play()", 21, x.play());
+        CHECK.equal("offset", 9, x.terminal(0, 2));
+        CHECK.equal("missed()", 0, x.missed());
+    }
+
+    /** In the door the offset does not count: 9 and -9, and far more. */
+    private static void anyOffsetInTheDoor() {
+        for (int sign = -1; sign <= 1; sign += 2) {
+            for (int superframes : new int[] {2, 3, 100}) {
+                SharedUplink x = new SharedUplink();
+                x.drift(0, 3 * sign);
+                Scene.play(x, superframes - 1);
+                x.power(0, true);
+                CHECK.equal("play()", 1, x.play());
+                CHECK.equal("offset", 3 * sign * superframes, x.terminal(0, 2));
+                CHECK.equal("heard in the door", 0, x.heard(0, 0));
+            }
+        }
+    }
+
+    /** "if it is the only one there": none, one, two. */
+    private static void oneAloneInTheDoor() {
+        int[] heard = {SharedUplink.NONE, 0, SharedUplink.NONE, SharedUplink.NONE};
+        int[] missed = {0, 0, 2, 3};
+        for (int bursts = 0; bursts <= 3; bursts++) {
+            SharedUplink x = new SharedUplink();
+            for (int t = 0; t < bursts; t++) {
+                x.power(t, true);
+            }
+            CHECK.equal("play() with " + bursts, bursts == 1 ? 1 : 0, x.play());
+            CHECK.equal("heard in the door", heard[bursts], x.heard(0, 0));
+            CHECK.equal("missed()", missed[bursts], x.missed());
+        }
+    }
+
+    /** "bursts that were sent": slots that are lost or empty are not missed, and it adds up. */
+    private static void missedCountsBurstsAlone() {
+        SharedUplink x = Scene.steady(0);
+        CHECK.equal("missed()", 0, x.missed());
+        x.lose(0, 0);
+        x.lose(9, 1);
+        x.lose(4, 2);
+        CHECK.equal("play()", 9, x.play());
+        CHECK.equal("missed()", 0, x.missed());
+        x.lose(8, 1);
+        CHECK.equal("missed() before the loss", 0, x.missed());
+        x.play();
+        CHECK.equal("missed()", 1, x.missed());
+        Scene.playUnheard(x, 1);
+        CHECK.equal("missed()", 10, x.missed());
+        x.power(1, true);
+        x.power(2, true);
+        x.play();
+        CHECK.equal("missed(), in the door, too", 12, x.missed());
+    }
+
+    /** "IllegalArgumentException: there is none." The first and last of each there are. */
+    private static void thereAreTenSlotsAndThreeCarriers() {
+        SharedUplink y = new SharedUplink();
+        CHECK.equal("heard(0, 0)", SharedUplink.NONE, y.heard(0, 0));
+        CHECK.equal("heard(0, 2)", SharedUplink.NONE, y.heard(0, 2));
+        CHECK.equal("heard(9, 0)", SharedUplink.NONE, y.heard(9, 0));
+        CHECK.equal("heard(9, 2)", SharedUplink.NONE, y.heard(9, 2));
         for (int[] w : Scene.wrongSlots()) {
             CHECK.refusedAsArgument("heard(" + w[0] + ", " + w[1] + ")",
                     x -> x.heard(w[0], w[1]));

@@ -9,7 +9,9 @@ public final class LoseTest {
         aMeetingInALostDoor();
         aLossWithoutBurstIsOver();
         aLostBurstDisturbsAllTheSame();
-        wrongArgumentsAreRefused();
+        lostForOneSuperframeAlone();
+        allSlotsLostAtOnce();
+        thereAreTenSlotsAndThreeCarriers();
         CHECK.end();
     }
 
@@ -28,7 +30,7 @@ public final class LoseTest {
     private static void everySlotCanBeLost() {
         for (int slot = 0; slot < 10; slot++) {
             for (int carrier = 0; carrier < 3; carrier++) {
-                SharedUplink x = Scene.steady(0, 1, 2, 3, 4);
+                SharedUplink x = Scene.five();
                 int due = 26 - (x.plan(slot, carrier, 0) == SharedUplink.NONE ? 0 : 1);
                 x.lose(slot, carrier);
                 CHECK.equal("play() without " + slot + ", " + carrier, due, x.play());
@@ -85,7 +87,38 @@ public final class LoseTest {
         CHECK.equal("missed()", 10, x.missed());
     }
 
-    private static void wrongArgumentsAreRefused() {
+    /** "in the next superframe (in that alone)": not in the one behind it, nor then again. */
+    private static void lostForOneSuperframeAlone() {
+        SharedUplink x = Scene.steady(0);
+        x.lose(0, 1);
+        int[] due = {8, 9, 9, 9};
+        for (int answer : due) {
+            CHECK.equal("play() in " + x.played(), answer, x.play());
+        }
+        x.lose(0, 1);
+        CHECK.equal("play() with it lost anew", 8, x.play());
+    }
+
+    private static void allSlotsLostAtOnce() {
+        SharedUplink x = Scene.five();
+        for (int slot = 0; slot < 10; slot++) {
+            for (int carrier = 0; carrier < 3; carrier++) {
+                x.lose(slot, carrier);
+            }
+        }
+        CHECK.equal("play() with all lost", 0, x.play());
+        CHECK.equal("missed()", 26, x.missed());
+        CHECK.equal("play() behind that", 26, x.play());
+        CHECK.equal("missed()", 26, x.missed());
+    }
+
+    /** "IllegalArgumentException: there is none." The first and last of each there are. */
+    private static void thereAreTenSlotsAndThreeCarriers() {
+        SharedUplink y = new SharedUplink();
+        CHECK.accepted("lose(0, 0)", () -> y.lose(0, 0));
+        CHECK.accepted("lose(0, 2)", () -> y.lose(0, 2));
+        CHECK.accepted("lose(9, 0)", () -> y.lose(9, 0));
+        CHECK.accepted("lose(9, 2)", () -> y.lose(9, 2));
         for (int[] w : Scene.wrongSlots()) {
             CHECK.refusedAsArgument("lose(" + w[0] + ", " + w[1] + ")", x -> x.lose(w[0], w[1]));
         }

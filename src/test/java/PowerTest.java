@@ -12,10 +12,12 @@ public final class PowerTest {
         goneCellsStayGone();
         cellsWereSentNoTime();
         whatIsToldWhileOffIsLost();
-        CHECK.refusedAsArgument("power(-1, true)", x -> x.power(-1, true));
-        CHECK.refusedAsArgument("power(5, true)", x -> x.power(5, true));
-        CHECK.refusedAsArgument("power(-1, false)", x -> x.power(-1, false));
-        CHECK.refusedAsArgument("power(5, false)", x -> x.power(5, false));
+        offWhileOffChangesNothing();
+        offKeepsAllElse();
+        aLevelIsLostByOff();
+        offWithoutAnyCell();
+        offWithTwentyFourCells();
+        aTerminalIsNoughtToFour();
         CHECK.end();
     }
 
@@ -157,5 +159,82 @@ public final class PowerTest {
         CHECK.equal("under way", 0, x.terminal(0, 4));
         CHECK.equal("base", 2, x.terminal(0, 5));
         CHECK.equal("arrived once", 1, x.centre(0, 3));
+    }
+
+    /** "whether that is new": off while off answers false, at every stage of others too. */
+    private static void offWhileOffChangesNothing() {
+        SharedUplink x = Scene.steady(0);
+        x.send(1, 6);
+        String before = Snapshot.of(x);
+        power(x, 1, false, false);
+        CHECK.equal("all that can be asked", before, Snapshot.of(x));
+    }
+
+    /** Offset, drift, base and what failed are not named: they stay as they were. */
+    private static void offKeepsAllElse() {
+        SharedUplink x = Scene.steady(0);
+        x.send(0, 1);
+        for (int i = 0; i < 4; i++) {
+            Scene.playFirstLost(x);
+            x.play();
+        }
+        x.drift(0, 2);
+        x.play();
+        x.send(0, 2);
+        power(x, 0, false, true);
+        CHECK.equal("offset", 2, x.terminal(0, 2));
+        CHECK.equal("base", 2, x.terminal(0, 5));
+        CHECK.equal("failed", 1, x.terminal(0, 6));
+        x.play();
+        CHECK.equal("offset with the drift of before", 4, x.terminal(0, 2));
+        power(x, 0, true, true);
+        CHECK.equal("offset", 4, x.terminal(0, 2));
+        CHECK.equal("base", 2, x.terminal(0, 5));
+        CHECK.equal("failed", 1, x.terminal(0, 6));
+        CHECK.equal("fresh", 2, x.terminal(0, 3));
+        CHECK.equal("the next number", 3, x.send(0, 1));
+    }
+
+    /** Off with a level above 0, it takes no part in what moves the levels. */
+    private static void aLevelIsLostByOff() {
+        SharedUplink x = new SharedUplink();
+        x.power(0, true);
+        x.power(1, true);
+        x.play();
+        CHECK.equal("level of 0", 1, x.terminal(0, 1));
+        power(x, 0, false, true);
+        CHECK.equal("level of one that is off", SharedUplink.NONE, x.terminal(0, 1));
+        CHECK.equal("play() with 1 alone", 1, x.play());
+        CHECK.equal("off", 0, x.terminal(0, 0));
+        CHECK.equal("play() without anybody in the door", 0, x.play());
+        power(x, 0, true, true);
+        CHECK.equal("level", 0, x.terminal(0, 1));
+    }
+
+    private static void offWithoutAnyCell() {
+        SharedUplink x = Scene.steady(0);
+        power(x, 0, false, true);
+        CHECK.equal("fresh", 0, x.terminal(0, 3));
+        CHECK.equal("under way", 0, x.terminal(0, 4));
+        CHECK.equal("base", 1, x.terminal(0, 5));
+    }
+
+    private static void offWithTwentyFourCells() {
+        SharedUplink x = Scene.steady(0);
+        Scene.sendCells(x, 0, 24);
+        Scene.playUnheard(x, 2);
+        CHECK.equal("under way", 18, x.terminal(0, 4));
+        power(x, 0, false, true);
+        CHECK.equal("fresh", 24, x.terminal(0, 3));
+        CHECK.equal("under way", 0, x.terminal(0, 4));
+        CHECK.refused("send(0, 1)", IllegalStateException.class, () -> x.send(0, 1));
+    }
+
+    /** "IllegalArgumentException": there is no such terminal. */
+    private static void aTerminalIsNoughtToFour() {
+        for (int t : new int[] {-1, 5, Integer.MIN_VALUE, Integer.MAX_VALUE}) {
+            CHECK.refusedAsArgument("power(" + t + ", true)", x -> x.power(t, true));
+            CHECK.refusedAsArgument("power(" + t + ", false)", x -> x.power(t, false));
+        }
     }
 }
