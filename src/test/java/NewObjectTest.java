@@ -8,12 +8,13 @@ import java.util.TreeSet;
 public final class NewObjectTest {
     private static final Check CHECK = new Check("NewObjectTest");
 
-    public static void main(String[] args) {
+    public static void main(String[] args) throws ReflectiveOperationException {
         everyTerminalIsOff();
         nothingIsKnownOrPlanned();
         superframeNoughtIsNext();
         objectsAreApart();
         theFaceIsTheDocuments();
+        theFaceNamesWhatItThrows();
         CHECK.end();
     }
 
@@ -95,6 +96,34 @@ public final class NewObjectTest {
         }
         CHECK.equal("the face", want.toString(), got.toString());
         CHECK.equal("NONE", -1, SharedUplink.NONE);
+        CHECK.equal("modifiers of the class", Modifier.PUBLIC | Modifier.FINAL,
+                SharedUplink.class.getModifiers());
+    }
+
+    private static void theFaceNamesWhatItThrows() throws ReflectiveOperationException {
+        String argument = "IllegalArgumentException";
+        String state = "IllegalStateException";
+        thrown(argument, "rates", int.class, int.class, int.class);
+        thrown(argument, "power", int.class, boolean.class);
+        thrown(argument, "drift", int.class, int.class);
+        thrown(argument + "," + state, "send", int.class, int.class);
+        thrown(argument, "lose", int.class, int.class);
+        thrown(state, "play");
+        thrown("", "played");
+        thrown(argument, "terminal", int.class, int.class);
+        thrown(argument, "centre", int.class, int.class);
+        thrown(argument, "plan", int.class, int.class, int.class);
+        thrown(argument, "places", int.class, int.class);
+        thrown(argument, "heard", int.class, int.class);
+        thrown("", "missed");
+    }
+
+    private static void thrown(String want, String name, Class<?>... parameters)
+            throws ReflectiveOperationException {
+        Method method = SharedUplink.class.getDeclaredMethod(name, parameters);
+        CHECK.equal(name + " is public", 1, Modifier.isPublic(method.getModifiers()) ? 1 : 0);
+        CHECK.equal(name + " is of an object", 0, Modifier.isStatic(method.getModifiers()) ? 1 : 0);
+        CHECK.equal("what " + name + " throws", want, types(method.getExceptionTypes()));
     }
 
     private static String types(Class<?>[] types) {
